@@ -16,7 +16,6 @@ public final class RidgeBooks {
     private static final int MOST_PRINTS = 16;
     private static final int SIDE = 24;
     private static final int WHOLE_ROW = (1 << SIDE) - 1;
-    private static final int INNER_CELLS = WHOLE_ROW & ~1 & ~(1 << (SIDE - 1));
     private static final int DIRECTIONS = 8;
     private static final int FORK = 8;
     private static final int MOST_MARKS = 40;
@@ -152,7 +151,7 @@ public final class RidgeBooks {
         int left = othersWithMarks(p);
         for (int k = 0; k < boardCount; k++) {
             int q = nextToLookAt(sought, left);
-            // The order of BOUNDS is such that none behind one that can't be ahead could be ahead.
+            // Once a BOUND can't be ahead, none behind it can: they come in that order.
             Meeting meeting = isAhead(bound(p, q), q, foundScore, found) ? meetingOf(p, q) : null;
             if (meeting == null) {
                 break;
@@ -477,8 +476,8 @@ public final class RidgeBooks {
             board.clearMarks();
             for (int y = 1; y < SIDE - 1; y++) {
                 surroundings.look(board.thinned, y);
-                int ends = surroundings.ends() & INNER_CELLS;
-                int forks = surroundings.forks() & INNER_CELLS;
+                int ends = surroundings.ends();
+                int forks = surroundings.forks();
                 for (int x = 1; (ends | forks) != 0 && x < SIDE - 1; x++) {
                     if (((ends >>> x) & 1) != 0) {
                         board.addMark(x, y, surroundings.directionOfEnd(x));

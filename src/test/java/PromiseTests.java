@@ -331,6 +331,7 @@ public final class PromiseTests {
         draw(book, 0, 5, "###############");
         draw(book, 0, 5, "################");
         book.print();
+        draw(book, 0, 13, "##############");
         dueBest(book, 0, 1, 1, 0, -1, 3);
         dueBest(book, 1, 0, 1, 0, 1, -3);
         dueBest(book, 0, 3, 1, 0, 8, 0);
@@ -342,8 +343,12 @@ public final class PromiseTests {
         dueBest(book, 0, 1, 1, 0, -2, 4);
         dueBest(book, 0, 2, 1, 0, 8, 0);
         dueBest(book, 2, 0, 1, 0, -8, 0);
+        dueBest(book, 0, 6, 1, 0, 8, 8);
+        dueBest(book, 6, 0, 1, 0, -8, -8);
+        dueBest(book, 2, 6, 1, 0, 0, 8);
+        dueBest(book, 6, 2, 1, 0, 0, -8);
         dueBest(book, 0, 3, 0, 0, 0, 0);
-        int[][] wrongOnes = {{0, 6, 0}, {6, 0, 0}, {-1, 0, 1}, {0, 16, 2}, {0, 1, 4}, {0, 1, -1},
+        int[][] wrongOnes = {{0, 7, 0}, {7, 0, 0}, {-1, 0, 1}, {0, 16, 2}, {0, 1, 4}, {0, 1, -1},
                 {Integer.MIN_VALUE, Integer.MAX_VALUE, 0}};
         for (int[] c : wrongOnes) {
             due(9, "best(" + c[0] + ", " + c[1] + ", " + c[2] + ")", book.best(c[0], c[1], c[2]), -100);
