@@ -594,8 +594,10 @@ public final class RidgeBooks {
                 int at = turn * MOST_MARKS + i;
                 int x = turnedX[at] + dx + MOST_SHIFT;
                 int y = turnedY[at] + dy + MOST_SHIFT;
+                int direction = turnedDirection[at];
                 boolean isInSpan = x >= 0 && x < SPAN && y >= 0 && y < SPAN;
-                choices[i] = isInSpan ? alike[turnedDirection[at]] & nearX[x] & nearY[y] : 0;
+                boolean isKnown = direction >= 0 && direction < alike.length;
+                choices[i] = isInSpan && isKnown ? alike[direction] & nearX[x] & nearY[y] : 0;
                 chosen |= choices[i];
                 choosers += choices[i] != 0 ? 1 : 0;
             }
@@ -612,6 +614,9 @@ public final class RidgeBooks {
             waiting[0] = start;
             for (int head = 0; head < tail && head < MOST_MARKS; head++) {
                 int i = waiting[head];
+                if (i < 0 || i >= MOST_MARKS) {
+                    return false;
+                }
                 long free = choices[i] & ~mated;
                 if (free != 0) {
                     pairAlong(i, lowest(free));
@@ -640,6 +645,9 @@ public final class RidgeBooks {
             int i = first;
             int j = second;
             for (int step = 0; step < MOST_MARKS; step++) {
+                if (i < 0 || i >= MOST_MARKS || j < 0 || j >= MOST_MARKS) {
+                    return;
+                }
                 int before = mateOfFirst[i];
                 mateOfFirst[i] = j;
                 mateOfSecond[j] = i;

@@ -257,7 +257,8 @@ public final class ThinSentenceTests {
                 .due("mark(1, -1, 0)", 5).due("mark(1, -1, 1)", 4).due("mark(1, -1, 2)", 1)
                 .dueEach(NONE, "mark(1, -2, 0)", "mark(1, MIN, 0)", "mark(1, 5, 0)", "mark(1, MAX, 2)")
                 .dueEach(NONE, "mark(1, 0, -1)", "mark(1, 0, 3)", "mark(1, -1, -1)", "mark(1, -1, 3)")
-                .dueEach(NONE, "mark(2, -1, 0)", "mark(2, 0, 0)", "mark(-1, -1, 0)", "mark(16, 0, 0)");
+                .dueEach(NONE, "mark(2, -1, 0)", "mark(2, 0, 0)", "mark(-1, -1, 0)", "mark(16, 0, 0)")
+                .dueEach(NONE, "mark(1, 40, 1)", "mark(1, 0, MIN)", "mark(1, 0, MAX)", "mark(-1, 0, 0)");
         Sentence.says("Promise 6", "2 DIRECTION of an END (8 a FORK)")
                 .draw(8, 8, "..#", "..#", "#####", "..#", "..#")
                 .due("mark(0, 1, 2)", 0).due("mark(0, 2, 2)", 8).due("mark(0, 3, 2)", 4);
