@@ -5,6 +5,11 @@ public final class ReferenceTests {
     private static final int RUNS = 40;
     private static final int CALLS = 512;
 
+    /** Row 0 first. A way that is wound up and goes from one end, little by little: 52 rounds of thinning. */
+    private static final int[] SLOW = {
+        9216, 219648, 392448, 261632, 1048448, 1572672, 1028000, 4186048, 6227952, 4099008, 6244336, 4173760,
+        1038304, 1572768, 780240, 393184, 260064, 64976, 130880, 98176, 48896, 12160, 19136, 1088};
+
     private static int wrong = 0;
 
     private final Random random;
@@ -23,6 +28,7 @@ public final class ReferenceTests {
         for (int seed = 0; seed < RUNS; seed++) {
             new ReferenceTests(seed).run();
         }
+        new ReferenceTests(RUNS).thinSlowly();
         for (int n = -1; n <= 13; n++) {
             for (int k = -1; k <= 13; k++) {
                 for (int p = -1; p <= 17; p++) {
@@ -58,6 +64,16 @@ public final class ReferenceTests {
         }
         while (calls < CALLS) {
             callAny();
+        }
+    }
+
+    private void thinSlowly() {
+        print();
+        for (int y = 0; y < 24; y++) {
+            row(0, y, SLOW[y]);
+        }
+        for (int y = 0; y < 24; y++) {
+            check("thin(0, " + y + ")", book.thin(0, y), plain.thin(0, y));
         }
     }
 

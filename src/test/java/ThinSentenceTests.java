@@ -37,6 +37,10 @@ public final class ThinSentenceTests {
         Sentence.says("Term II", words)
                 .draw(8, 8, "#.#.#", ".###.", ".###.", ".#.#.", "..#..")
                 .dueThinned(0, 8, 8, "#...#", ".#.#.", ".###.", ".#.#.", "..#..");
+        // The first round takes CELLS of column 0 alone, and the second round one more.
+        Sentence.says("Term II", words)
+                .draw(0, 5, ".###", "##..", "#...")
+                .dueThinned(0, 0, 5, ".###");
         // What neither takes any from stays as it is told.
         Sentence.says("Term II", words)
                 .draw(8, 8, "#...#", ".#.#.", ".###.", ".#.#.", "..#..")
